@@ -1267,7 +1267,7 @@ public final class LastWordHill {
         /** Puts into the code what waits and binds at least as closely as the sign. */
         private void release(int sign) {
             int last = waitingLast();
-            while (closeness(last) >= closeness(sign)) {
+            for (int i = 0; i < MOST_WAITING && closeness(last) >= closeness(sign); i++) {
                 if (last == Tokens.NOT) {
                     open--;
                 }
