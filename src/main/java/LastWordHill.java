@@ -940,8 +940,8 @@ public final class LastWordHill {
                 from = behind;
             }
             addToken(END, length, 0);
-            current = 0;
-            showCurrent();
+            current = NONE;
+            advance();
         }
 
         private void addToken(int kind, int place, int value) {
@@ -958,10 +958,6 @@ public final class LastWordHill {
             if (current < count - 1) {
                 current++;
             }
-            showCurrent();
-        }
-
-        private void showCurrent() {
             if (current >= 0 && current <= TAPE_LENGTH) {
                 kind = kinds[current];
                 place = places[current];
@@ -1504,27 +1500,31 @@ public final class LastWordHill {
         void cover(int questions) {
             fewest = NONE;
             leastSet = NONE;
-            coverRest(questions, 0, 0);
+            coverRest(this, questions, 0, 0);
         }
 
         /** Some word must answer the least open question, so only those are tried: every fewest set is met. */
-        private void coverRest(int rest, int taken, int count) {
+        private static void coverRest(Muse muse, int rest, int taken, int count) {
             if (rest == 0) {
-                if (fewest == NONE || count < fewest || count == fewest && taken < leastSet) {
-                    fewest = count;
-                    leastSet = taken;
-                }
+                muse.takeCover(taken, count);
                 return;
             }
-            if (count >= QUESTIONS || fewest != NONE && count >= fewest) {
+            if (count >= QUESTIONS || muse.fewest != NONE && count >= muse.fewest) {
                 return;
             }
             int open = rest & -rest;
             for (int word = 0; word < WORDS; word++) {
-                int answered = texts.answered(word);
+                int answered = muse.texts.answered(word);
                 if ((answered & open) != 0) {
-                    coverRest(rest & ~answered, taken | 1 << word, count + 1);
+                    coverRest(muse, rest & ~answered, taken | 1 << word, count + 1);
                 }
+            }
+        }
+
+        private void takeCover(int taken, int count) {
+            if (fewest == NONE || count < fewest || count == fewest && taken < leastSet) {
+                fewest = count;
+                leastSet = taken;
             }
         }
 
@@ -1701,7 +1701,7 @@ public final class LastWordHill {
 
         int mostSpeakers() {
             most = NONE;
-            seat(0, 0, 0, 0);
+            seat(this, 0, 0, 0, 0);
             return most;
         }
 
@@ -1711,25 +1711,25 @@ public final class LastWordHill {
         }
 
         /** Orders come as in a list sorted by them; one that can only be as good as the best comes too late. */
-        private void seat(int seated, int place, int time, int spoke) {
-            int all = told.speakers.count;
-            if (spoke + all - place <= most) {
+        private static void seat(Muse muse, int seated, int place, int time, int spoke) {
+            Table speakers = muse.told.speakers;
+            if (spoke + speakers.count - place <= muse.most) {
                 return;
             }
-            if (place >= all || place >= SPEAKERS) {
-                most = spoke;
-                System.arraycopy(order, 0, bestOrder, 0, SPEAKERS);
+            if (place >= speakers.count || place < 0 || place >= SPEAKERS) {
+                muse.most = spoke;
+                System.arraycopy(muse.order, 0, muse.bestOrder, 0, SPEAKERS);
                 return;
             }
-            for (int i = 0; i < all; i++) {
+            for (int i = 0; i < speakers.count; i++) {
                 if ((seated >> i & 1) == 1) {
                     continue;
                 }
-                order[place] = i;
-                if (time > told.speakers.tell(i, 1)) {
-                    seat(seated | 1 << i, place + 1, time, spoke);
+                muse.order[place] = i;
+                if (time > speakers.tell(i, 1)) {
+                    seat(muse, seated | 1 << i, place + 1, time, spoke);
                 } else {
-                    seat(seated | 1 << i, place + 1, time + told.speakers.tell(i, 0), spoke + 1);
+                    seat(muse, seated | 1 << i, place + 1, time + speakers.tell(i, 0), spoke + 1);
                 }
             }
         }
