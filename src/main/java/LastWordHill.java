@@ -35,10 +35,14 @@ public final class LastWordHill {
     private static final int[] LOWEST = {0, 1, 0, 0, 0};
     private static final int[] HIGHEST = {9, 9, 3, 99, 99};
 
-    // The words of THE LAW, as their keywords are counted.
+    // The words and the names of THE LAW, as their keywords are counted.
     private static final int CLIMBS = 0;
     private static final int TIRES = 1;
     private static final int SAYS = 2;
+    private static final int NAME_WORD = 5;
+    private static final int NAME_LEFT = 6;
+    private static final int NAME_OTHERS = 7;
+    private static final int NAME_DAY = 8;
 
     private static final int TEXT_LAW = 0;
     private static final int TEXT_CLIMBS = 1;
@@ -121,6 +125,7 @@ public final class LastWordHill {
         now.put(number, VOICE, voice);
         now.put(number, LEGS, legs);
         now.put(number, PARTY, party);
+        now.put(number, SAID, 0);
         now.sendHome(number);
         now.put(number, BREATH, FULL_BREATH);
         past.forget();
@@ -658,16 +663,16 @@ public final class LastWordHill {
             }
         }
 
-        /** What a name in THE LAW means; the names of a row's first numbers are counted as these are. */
+        /** What a name in THE LAW means; those ahead of "word" are counted as the numbers of a row are. */
         int meaning(int name, int who) {
             switch (name) {
-                case 5:
+                case NAME_WORD:
                     return Math.max(0, tell(who, WORD));
-                case 6:
+                case NAME_LEFT:
                     return Math.max(0, sunset - minute);
-                case 7:
+                case NAME_OTHERS:
                     return tell(who, AT) >= TOP ? manyUp() - 1 : manyUp();
-                case 8:
+                case NAME_DAY:
                     return day;
                 default:
                     return tell(who, name);
@@ -1214,8 +1219,6 @@ public final class LastWordHill {
                 if (!readSum() || !readComparison() || !readSum()) {
                     return false;
                 }
-                release('<');
-                release(Tokens.NOT);
                 closeBrackets();
                 more = tokens.kind == Tokens.AND || tokens.kind == Tokens.OR;
                 if (more) {
@@ -1244,7 +1247,6 @@ public final class LastWordHill {
                 waits--;
                 open--;
                 tokens.advance();
-                release(Tokens.NOT);
             }
         }
 

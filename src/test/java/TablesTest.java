@@ -69,6 +69,11 @@ public final class TablesTest {
         }
         Check.due("all nine", x.guard(0, -1), 9);
         Check.due("more than 8", x.guard(0, 8), 1);
+        x.watch(-1, 0);
+        for (int i = 50; i < 59; i++) {
+            x.watch(i, i);
+        }
+        Check.due("nine leave out 59", x.guard(50, -1), -1);
     }
 
     private static void step() {
@@ -108,6 +113,9 @@ public final class TablesTest {
         Check.due("down(10, 0, 5)", x.down(10, 0, 5), -1);
         Check.due("down(-1, 0, 5)", x.down(-1, 0, 5), -1);
         Check.due("down(0, 10, 5)", x.down(0, 10, 5), -1);
+        Check.due("alike, but no places", x.down(10, 10, 5), -1);
+        Check.due("alike, but no places", x.down(-1, -1, -1), -1);
+        Check.due("alike, but no places", x.down(10, 10, -1), -1);
         Check.due("down(0, 0, 20)", x.down(0, 0, 20), -1);
         Check.due("down(0, 0, -2)", x.down(0, 0, -2), -1);
     }

@@ -76,6 +76,9 @@ public final class TextsTest {
         Check.fault(x, 0, "climbs 1 \u00e9;", 1, 9);
         Check.fault(x, 0, "climbs 1 2;", 1, 9);
         Check.fault(x, 1, "climbs 1;", 1, 0);
+        Check.fault(x, 0, "(".repeat(400), 1, 0);
+        Check.lines(x, 0, "says 1" + "+1".repeat(196) + " ;", 1);
+        Check.due("says", x.of(0, 10), 197);
         Check.fault(x, 0, "on 0 person 0 with 0 at 0;", 1, 0);
     }
 
@@ -127,6 +130,15 @@ public final class TextsTest {
             + " (1=1);", 1);
         Check.due("says", x.of(0, 10), 2);
         Check.fault(x, 0, "says 1 when ((((((((1=1 and x", 1, 28);
+        // all that can wait at once
+        String deep = "1=2 or 1=1 and(";
+        Check.lines(x, 0, "says 3 when " + deep.repeat(8) + "1=2 or 1=1 and 1=1" + ")".repeat(8) + ";", 1);
+        Check.due("says", x.of(0, 10), 3);
+        Check.lines(x, 0, "says 3 when " + deep.repeat(8) + "1=2 or 1=1 and 1=2" + ")".repeat(8) + ";says 4;", 2);
+        Check.due("says", x.of(0, 10), 4);
+        Check.lines(x, 0, "says 5 when not(1=2 or 1=1 and not(1=2 or 1=1 and not(1=2 or 1=1 and not(1=2 or 1=1 and 1=2))))"
+            + " or 1=2;says 6;", 2);
+        Check.due("says", x.of(0, 10), 6);
         Check.fault(x, 0, "says 1 when ((((((((1=1 and not 1=1", 3, 28);
     }
 
