@@ -42,6 +42,17 @@ public final class TextsTest {
         Check.due("a zero byte can't stand", x.text(0), -1);
         Check.due("fault(0)", x.fault(0), 1);
         Check.due("fault(1)", x.fault(1), 380);
+        // what end() cut off is no part of a token: "climbs|climbs..." and "...100|0"
+        Check.due("feed", x.feed(0x636c696d, 0x6273636c, 0x696d6273, 0x31303030, 0x31303030), 20);
+        Check.due("end(6)", x.end(6), true);
+        Check.due("text(0)", x.text(0), -1);
+        Check.due("fault(0)", x.fault(0), 1);
+        Check.due("fault(1)", x.fault(1), 6);
+        Check.due("feed", x.feed(0x66726f6d, 0x31303030, 0x30303030, 0x30303030, 0x30303030), 20);
+        Check.due("end(8)", x.end(8), true);
+        Check.due("text(2)", x.text(2), -1);
+        Check.due("a number of four digits beyond its bounds", x.fault(0), 2);
+        Check.due("fault(1)", x.fault(1), 4);
         // "from 7 set 33;" with the highest byte of each number first
         Check.due("feed", x.feed(0x66726f6d, 0x20372073, 0x65742033, 0x333b0a20, 0x0a0a0a0a), 20);
         Check.due("text(2)", x.text(2), 1);
