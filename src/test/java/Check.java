@@ -4,6 +4,7 @@ import java.nio.charset.StandardCharsets;
 final class Check {
     private static int wrong = 0;
     private static int asked = 0;
+    private static String heading = "";
 
     private Check() {
     }
@@ -12,8 +13,21 @@ final class Check {
         asked++;
         if (got != want) {
             wrong++;
-            System.out.println(call + " answered " + got + ", due is " + want);
+            System.out.println(heading + call + " answered " + got + ", due is " + want);
         }
+    }
+
+    /** What stands ahead of each wrong answer from here on. */
+    static void under(String what) {
+        heading = what;
+    }
+
+    static int answers() {
+        return asked;
+    }
+
+    static void same(String what, String got, String want) {
+        due(what + " (" + got + " for " + want + ")", got.equals(want), true);
     }
 
     static void due(String call, boolean got, boolean want) {
