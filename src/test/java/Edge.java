@@ -17,7 +17,7 @@ final class Edge {
     private Edge() {
     }
 
-    /** A sentence of the promise's own section, or of the terms it is told in. */
+    /** A sentence of the promise's own section, of the terms it is told in, or of what the class is. */
     static void sentence(int promise, String words) {
         closeLatest();
         latest = "promise " + promise + ", \"" + words + "\": ";
@@ -47,7 +47,7 @@ final class Edge {
     private static boolean quoted(int promise, String words) {
         String document = read();
         return document.isEmpty() || section(document, "## Promise " + promise + ":").contains(words)
-            || section(document, "## Terms").contains(words);
+            || section(document, "## Terms").contains(words) || section(document, "## What it is").contains(words);
     }
 
     private static String section(String document, String title) {

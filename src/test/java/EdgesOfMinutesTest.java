@@ -14,6 +14,7 @@ public final class EdgesOfMinutesTest {
         sunsOfAllDays();
         climbs();
         belowSunset();
+        personByPerson();
         rests();
         climbing();
         aheadOfThisMinute();
@@ -23,6 +24,7 @@ public final class EdgesOfMinutesTest {
         endOfDay();
         fullBook();
         bookLines();
+        bookWhat();
         bookBounds();
         Edge.finish(7, 13);
     }
@@ -190,6 +192,47 @@ public final class EdgesOfMinutesTest {
         x.set(4, 0, 99);
         Check.due("behind it", x.minutes(48), 0);
         Check.due("no DRAW behind it", x.look(9), state);
+    }
+
+    /** Who comes ahead counts among the others of who comes behind him in the same MINUTE, not the other way round. */
+    private static void personByPerson() {
+        Edge.sentence(7, "PERSON by PERSON GOING: is he below the top");
+        LastWordHill x = withOne("climbs 50 when others>0;climbs 1;tires 0;says 1000;");
+        x.person(0, 1, 0);
+        x.person(0, 1, 0);
+        for (int who = 0; who < 3; who++) {
+            x.act(1, who, 5 + who);
+            x.set(4, who, who == 1 ? 98 : 0);
+        }
+        x.minutes(1);
+        tells(x, 0, 4, 1);
+        tells(x, 1, 4, 99);
+        tells(x, 2, 4, 50);
+        x.minutes(1);
+        tells(x, 0, 4, 51);
+        tells(x, 2, 4, 99);
+        x.set(4, 0, 99);
+        Check.due("all three", x.minutes(1), 3);
+        Check.due("the last of them has the last word", x.look(2), 7);
+        for (int i = 0; i < 3; i++) {
+            Check.bookLine(x, 1 + i, 0, 2, 0, i, 5 + i);
+        }
+        x.act(2, 2, 0);
+        Check.due("one is called back", x.minutes(1), 2);
+        Check.due("the last of those GOING", x.look(2), 6);
+        Edge.sentence(7, "a DRAW of m: it becomes");
+        x = withOne("says 0;");
+        for (int who = 0; who < 10; who++) {
+            x.person(0, 1, 0);
+            x.act(1, who, 0);
+            x.set(4, who, 99);
+        }
+        int state = 0;
+        for (int who = 0; who < 10; who++) {
+            state = (int) next(state);
+        }
+        x.minutes(1);
+        Check.due("STATE behind ten DRAWS", x.look(9), state);
     }
 
     private static void rests() {
@@ -439,6 +482,28 @@ public final class EdgesOfMinutesTest {
         x.minutes(60);
         Check.bookLine(x, 14, 1, 10, 2, -1, -1);
         looks(x, 8, 15);
+    }
+
+    private static void bookWhat() {
+        LastWordHill x = withOne("");
+        Edge.sentence(13, "Of line i of THE BOOK what 0 DAY, 1 MINUTE, 2 what, 3 who, 4 how much.");
+        x.set(6, 0, 19);
+        x.ask(9);
+        x.set(4, 0, 99);
+        x.act(0, 0, 0);
+        x.minutes(60);
+        x.minutes(59);
+        x.set(4, 0, 99);
+        x.set(5, 0, 59);
+        x.act(0, 0, 7);
+        x.minutes(1);
+        Check.bookLine(x, 0, 0, 0, 4, 9, 19);
+        Check.bookLine(x, 1, 0, 0, 1, 0, 0);
+        Check.bookLine(x, 2, 0, 40, 2, -1, 0);
+        Check.bookLine(x, 3, 1, 40, 2, -1, -1);
+        Check.bookLine(x, 4, 1, 59, 1, 0, 7);
+        Check.bookLine(x, 5, 1, 59, 2, -1, 7);
+        looks(x, 8, 6);
     }
 
     private static void bookBounds() {

@@ -20,6 +20,7 @@ public final class EdgesOfPastTest {
         noImage();
         imageOfAll();
         imageLeavesOut();
+        imageOfBook();
         imageMoreThanOnce();
         imageOfFull();
         look();
@@ -382,6 +383,28 @@ public final class EdgesOfPastTest {
         Check.due("what can be undone", x.look(14), 0);
     }
 
+    /** UNDO lets other lines come where those of THE IMAGE stood. */
+    private static void imageOfBook() {
+        LastWordHill x = busy();
+        for (int question = 0; question < 6; question++) {
+            x.ask(question);
+        }
+        Edge.sentence(37, "as it was when it was taken; gone back to it may be more than once");
+        String before = imaged(x);
+        x.image(true);
+        for (int times = 0; times < 2; times++) {
+            while (x.undo()) {
+                Check.due("a line less", x.book(x.look(8), 0), -2);
+            }
+            for (int i = 0; i < 6; i++) {
+                x.ask(9);
+            }
+            Check.due("other lines in their place", x.book(0, 3), times == 0 ? 9 : 0);
+            x.image(false);
+            Check.same("THE BOOK, too, is as it was", imaged(x), before);
+        }
+    }
+
     private static void imageMoreThanOnce() {
         LastWordHill x = busy();
         tellThoughts(x);
@@ -481,6 +504,15 @@ public final class EdgesOfPastTest {
 
     private static void lookAtState() {
         LastWordHill x = new LastWordHill();
+        Edge.sentence(38, "9 STATE");
+        Check.due("look(9)", x.look(9), 0);
+        x.person(0, 1, 0);
+        x.set(4, 0, 99);
+        x.act(1, 0, 0);
+        x.minutes(1);
+        Check.due("behind a DRAW", x.look(9), 1013904223);
+        x.undo();
+        Check.due("undone", x.look(9), 0);
         Edge.sentence(38, "(STATE as it is.)");
         for (int v : new int[] {-1, -2, LOW, HIGH, 0}) {
             x.state(v);

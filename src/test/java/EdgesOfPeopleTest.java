@@ -9,15 +9,19 @@ public final class EdgesOfPeopleTest {
     public static void main(String[] args) {
         newObject();
         newThoughts();
+        lastPromisedCall();
         state();
         person();
         tenPeople();
         setOfPerson();
         setOfHill();
         shout();
+        shoutBounds();
         letGo();
         callBack();
         ask();
+        wordsAndQuestions();
+        ofWhat();
         of();
         ofWithoutLaw();
         heldLaw();
@@ -42,6 +46,8 @@ public final class EdgesOfPeopleTest {
         Edge.sentence(1, "Wind.");
         looks(x, 1, -1);
         Check.due("ask(0)", new LastWordHill().ask(0), 0);
+        Edge.sentence(1, "`NONE = -1`: None.");
+        Check.due("NONE", LastWordHill.NONE, -1);
         Edge.sentence(1, "STATE of draws (an int, 0 at first)");
         looks(x, 9, 0);
         Edge.sentence(1, "WORD that the hill keeps: one or none (wind; none at first)");
@@ -83,6 +89,23 @@ public final class EdgesOfPeopleTest {
         x.set(4, 0, 99);
         x.set(4, 1, 99);
         Check.due("worths()", x.worths(), 0);
+    }
+
+    /** The first call is the coming of the PERSON. */
+    private static void lastPromisedCall() {
+        Edge.sentence(1, "An object is used for at most 512 calls after it has been made");
+        LastWordHill x = withOne();
+        for (int call = 2; call <= 511; call++) {
+            x.ask(call % 10);
+        }
+        Check.due("the 512th call: ASKED", x.look(3), 510);
+        x = withOne();
+        int days = 0;
+        for (int call = 2; call <= 511; call++) {
+            days += x.minutes(60) == 0 ? 1 : 0;
+        }
+        Check.due("days", days, 510);
+        Check.due("the 512th call: DAY", x.look(7), 510);
     }
 
     private static void state() {
@@ -238,6 +261,19 @@ public final class EdgesOfPeopleTest {
         }
     }
 
+    private static void shoutBounds() {
+        LastWordHill x = withOne();
+        x.set(4, 0, 99);
+        Edge.sentence(5, "What 0 to SHOUT WORD v");
+        for (int v = 0; v < 20; v++) {
+            done(x, 0, 0, v);
+            looks(x, 2, v);
+        }
+        refused(x, 0, 0, 20);
+        refused(x, 0, 0, -1);
+        looks(x, 2, 19);
+    }
+
     private static void letGo() {
         LastWordHill x = withOne();
         Edge.sentence(5, "1 to LET PERSON who GO with it");
@@ -313,6 +349,61 @@ public final class EdgesOfPeopleTest {
         x.set(4, 0, 99);
         x.act(0, 0, 0);
         Check.due("LAST is not kept yet", x.ask(0), 0);
+    }
+
+    /** Wherever a WORD or a QUESTION is told or asked for, the first and the last are there, and none beyond them. */
+    private static void wordsAndQuestions() {
+        Edge.sentence(6, "WORDS 0 .. 19. QUESTIONS 0 .. 9.");
+        LastWordHill x = withOne();
+        x.set(4, 0, 99);
+        int[] words = {-2, 0, 19, 20};
+        for (int v : words) {
+            boolean there = v == 0 || v == 19;
+            Check.due("set(6, 0, " + v + ")", x.set(6, 0, v), there);
+            Check.due("act(0, 0, " + v + ")", x.act(0, 0, v), there);
+            Check.due("act(1, 0, " + v + ")", x.act(1, 0, v), there);
+            Check.due("act(2, 0, " + v + ")", x.act(2, 0, v), there);
+            x.set(4, 0, 99);
+            Check.due("fits(" + v + ", 0)", x.fits(v, 0), there ? 0 : -1);
+            Check.due("step(0, " + v + ", 1)", x.step(0, v, 1) > 0, there);
+            Check.due("down(0, 1, " + v + ")", x.down(0, 1, v), there ? 1 : -1);
+        }
+        int[] questions = {-2, 0, 9, 10};
+        for (int question : questions) {
+            boolean there = question == 0 || question == 9;
+            Check.due("ask(" + question + ")", x.ask(question), there ? 0 : -1);
+            Check.due("answer(" + question + ", false)", x.answer(question, false) > 0, there);
+        }
+        Check.lines(x, 3, "word 0 answers 0 9;word 19 answers 0 9;", 2);
+        Check.due("the greatest set of QUESTIONS", x.fits(1023, 1), 0);
+        Check.due("a set with QUESTION 10", x.fits(1024, 1), -1);
+    }
+
+    private static void ofWhat() {
+        LastWordHill x = withOne();
+        x.person(1, 2, 3);
+        Edge.sentence(12, "Of a PERSON what 0 VOICE, 1 LEGS, 2 PARTY, 3 BREATH, 4 AT, 5 GOING, 6 his WORD");
+        x.act(1, 1, 19);
+        x.minutes(2);
+        int[] want = {1, 2, 3, 95, 10, 1, 19};
+        for (int what = 0; what < want.length; what++) {
+            Check.due("of(1, " + what + ")", x.of(1, what), want[what]);
+        }
+        Edge.sentence(12, ", 7 SAID, 8 climbs, 9 tires, 10 says");
+        x.set(4, 1, 99);
+        x.act(0, 1, 5);
+        x.act(0, 1, 5);
+        int[] more = {2, 5, 2, 300 + 50 + 95};
+        for (int what = 7; what <= 10; what++) {
+            Check.due("of(1, " + what + ")", x.of(1, what), more[what - 7]);
+        }
+        Edge.sentence(12, "voice, legs, party, breath: his; height: where he is; word: his WORD");
+        String[] names = {"voice", "legs", "party", "breath", "height", "word"};
+        int[] meant = {1, 2, 3, 95, 99, 19};
+        for (int i = 0; i < names.length; i++) {
+            Check.lines(x, 0, "says " + names[i] + ";", 1);
+            Check.due(names[i], x.of(1, 10), meant[i]);
+        }
     }
 
     private static void of() {

@@ -10,6 +10,7 @@ public final class EdgesOfTablesTest {
         watch();
         guard();
         step();
+        upToSixteenSteps();
         firstStepCounts();
         down();
         downBounds();
@@ -17,17 +18,21 @@ public final class EdgesOfTablesTest {
         over();
         overBounds();
         speaker();
+        upToSixSpeakers();
         council();
         councilOrder();
         rule();
         thing();
+        becomes();
         price();
+        upToTwelveShouts();
         prices();
         bell();
         worth();
         worths();
         game();
         gameOfSeveral();
+        gameFromBreath();
         Edge.finish(20, 21, 22, 23, 24, 25, 26, 27, 28, 29, 30, 31, 32, 33, 34, 35);
     }
 
@@ -119,6 +124,23 @@ public final class EdgesOfTablesTest {
         Check.due("step(NONE, ..)", x.step(-1, 99, LOW), 0);
         Check.due("none is then", x.down(0, 9, -1), -1);
         Check.due("one again", x.step(0, 0, 9), 1);
+    }
+
+    private static void upToSixteenSteps() {
+        LastWordHill x = new LastWordHill();
+        Edge.sentence(22, "told steps (up to 16: place a (0 .. 9), WORD w leads to place b)");
+        for (int i = 0; i < 15; i++) {
+            Check.due("step " + i, x.step(9, i, 0), i + 1);
+        }
+        Check.due("the sixteenth", x.step(0, 19, 9), 16);
+        Check.due("by the sixteenth", x.down(0, 9, 19), 1);
+        Check.due("the seventeenth", x.step(1, 19, 9), -1);
+        Check.due("not by the seventeenth", x.down(1, 9, 19), -1);
+        x.step(-1, 0, 0);
+        Check.due("from place 9 to itself", x.step(9, 0, 9), 1);
+        Check.due("from place 0 to itself", x.step(0, 0, 0), 2);
+        Check.due("it leads no further", x.down(0, 9, 0), -1);
+        Check.due("it leads no further", x.down(9, 0, -1), -1);
     }
 
     private static void firstStepCounts() {
@@ -279,6 +301,28 @@ public final class EdgesOfTablesTest {
         }
     }
 
+    private static void upToSixSpeakers() {
+        LastWordHill x = new LastWordHill();
+        Edge.sentence(26, "up to 6 told speakers (minutes 1 .. 30, patience 0 .. 99)");
+        for (int i = 1; i <= 5; i++) {
+            Check.due("speaker(30, 0)", x.speaker(30, 0), i);
+        }
+        Check.due("the first of five alone", x.council(0), 1);
+        Check.due("the sixth", x.speaker(1, 99), 6);
+        Check.due("the sixth counts, too", x.council(0), 2);
+        Check.due("the seventh", x.speaker(1, 99), -1);
+        Check.due("the seventh does not", x.council(0), 2);
+        Edge.sentence(27, "in an order of all one behind the other");
+        boolean[] seated = new boolean[6];
+        for (int i = 0; i < 6; i++) {
+            seated[x.council(10 + i)] = true;
+        }
+        for (int i = 0; i < 6; i++) {
+            Check.due("speaker " + i + " is in it, though he may not speak", seated[i], true);
+        }
+        Check.due("there is no seventh", x.council(16), -1);
+    }
+
     private static void council() {
         LastWordHill x = new LastWordHill();
         Edge.sentence(27, "COUNCIL what 0 how many, 10 + i the i-th. NONE if there is none such, or another what.");
@@ -374,6 +418,25 @@ public final class EdgesOfTablesTest {
         Check.due("BEFORE from 125", x.thing(125, 1), 3);
     }
 
+    private static void becomes() {
+        LastWordHill x = new LastWordHill();
+        Edge.sentence(29, "a number that goes round (0 .. 999): told rule: it becomes (a times it and b) modulo m");
+        // 999 times 999 and 999 is 999000: 0 modulo 1000, and 0 becomes 999.
+        x.rule(999, 999, 1000);
+        Check.due("ROUND from 999", x.thing(999, 0), 2);
+        Check.due("BEFORE from 999", x.thing(999, 1), 0);
+        // 998 is 1 modulo 997 and 999 is 2: each becomes two more, and 997 is odd.
+        x.rule(998, 999, 997);
+        Check.due("ROUND from 998", x.thing(998, 0), 997);
+        x.rule(999, 999, 1);
+        Check.due("ROUND modulo 1", x.thing(999, 0), 1);
+        Check.due("BEFORE modulo 1", x.thing(999, 1), 0);
+        // 999 is 0 modulo 999.
+        x.rule(0, 999, 999);
+        Check.due("999 modulo 999 is 0 already", x.thing(999, 1), 0);
+        Check.due("998 becomes 0", x.thing(998, 1), 1);
+    }
+
     private static void price() {
         LastWordHill x = new LastWordHill();
         Edge.sentence(30, "A shout for PRICE (NONE: none is then): how many; NONE if one can't be, or there are twelve.");
@@ -393,6 +456,19 @@ public final class EdgesOfTablesTest {
         Check.due("none is then", x.prices(1, 1), 0);
         Check.due("one again", x.price(999), 1);
         Check.due("the sum", x.prices(5, 1), 999);
+    }
+
+    private static void upToTwelveShouts() {
+        LastWordHill x = new LastWordHill();
+        Edge.sentence(30, "up to 12 told shouts (0 .. 999) by merchants in turn");
+        for (int i = 0; i < 11; i++) {
+            Check.due("price(" + i + ")", x.price(i), i + 1);
+        }
+        Check.due("the sum of eleven", x.prices(1, 1), 55);
+        Check.due("the twelfth", x.price(999), 12);
+        Check.due("the twelfth counts, too", x.prices(1, 1), 1054);
+        Check.due("the thirteenth", x.price(999), -1);
+        Check.due("the thirteenth does not", x.prices(1, 0), 12);
     }
 
     private static void prices() {
@@ -595,6 +671,22 @@ public final class EdgesOfTablesTest {
         x.set(3, 1, 9);
         Check.due("of 9", x.game(0), 1);
         Check.due("4 and 9 win: the fewest", x.game(1), 4);
+    }
+
+    private static void gameFromBreath() {
+        LastWordHill x = new LastWordHill();
+        Edge.sentence(35, "GAME: from BREATH of PEOPLE two by turns take");
+        x.person(0, 1, 0);
+        Check.due("of 99 at first", x.game(0), leastWinner(99, 0, 0));
+        x.person(0, 1, 0);
+        Check.due("two of 99", x.game(0), -1);
+        x.minutes(1);
+        Check.due("BREATH is as it was", x.game(0), -1);
+        x.act(1, 1, 3);
+        x.minutes(1);
+        Check.due("99 and 97: who begins wins", grundy(99) != grundy(97), true);
+        Check.due("99 and 97", x.game(0) >= 0, true);
+        Check.due("nothing is taken by asking", x.of(0, 3) + x.of(1, 3), 196);
     }
 
     /** PERSON 0, 5 and 9 have these; the first of them from whose BREATH something wins, by trying all. */

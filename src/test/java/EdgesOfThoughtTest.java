@@ -9,18 +9,23 @@ public final class EdgesOfThoughtTest {
 
     public static void main(String[] args) {
         goesBounds();
+        goesWhat();
         goesOverNight();
         nothingStays();
         saysInThought();
         keepsToday();
         keepsTomorrow();
+        keepsWithoutDraws();
         keepsParty();
         earliest();
+        ifHeGoesAtOnce();
         notByTwoHundred();
         fitsBounds();
+        fitsSet();
         best();
         cover();
         answer();
+        upToTenTold();
         could();
         next();
         Edge.finish(14, 15, 16, 17, 18, 19);
@@ -64,6 +69,21 @@ public final class EdgesOfThoughtTest {
         for (int what : new int[] {-1, 4, LOW, HIGH}) {
             Check.due("goes(1, " + what + ")", x.goes(1, what), -2);
         }
+    }
+
+    private static void goesWhat() {
+        LastWordHill x = withOne("climbs 33;tires 11;says 1000;");
+        x.person(0, 1, 0);
+        Edge.sentence(14, "GOES what 0 the WORD, 1 LAST, 2 at the top, 3 BREATH.");
+        x.set(6, 0, 19);
+        x.act(1, 0, 4);
+        goes(x, 1, 19, -1, 0, 187);
+        goes(x, 2, 19, -1, 0, 176);
+        goes(x, 3, 19, -1, 1, 165);
+        goes(x, 4, 19, 4, 1, 154);
+        goes(x, 40, 19, 4, 1, 99);
+        goes(x, 41, 4, 4, 0, 198);
+        goes(x, 60, 4, -1, 0, 198);
     }
 
     private static void goesOverNight() {
@@ -163,6 +183,23 @@ public final class EdgesOfThoughtTest {
         Check.due("DAY is as it was", x.look(7), 0);
     }
 
+    /** A STATE whose first DRAW is low, and one whose first DRAW is high: neither is asked. */
+    private static void keepsWithoutDraws() {
+        LastWordHill x = withOne("says 499;tires 0;");
+        x.act(1, 0, 3);
+        x.set(4, 0, 99);
+        Edge.sentence(15, "no DRAWS: he says it, if says is 500 at least). GOES for n (1 .. 60) MINUTES");
+        for (int state = 0; state < 20; state++) {
+            x.state(state * 100003);
+            Check.lines(x, 0, "says 499;tires 0;", 2);
+            keeps(x, "with 499", -1, -1);
+            Check.lines(x, 0, "says 500;tires 0;", 2);
+            keeps(x, "with 500", 3, 2);
+            Check.due("STATE", x.look(9), state * 100003);
+        }
+        Check.due("THE BOOK", x.look(8), 0);
+    }
+
     private static void keepsParty() {
         LastWordHill x = withOne("says 1000;");
         x.person(0, 1, 0);
@@ -225,6 +262,21 @@ public final class EdgesOfThoughtTest {
         Check.due("by no WORD", withWord(x, -1), 10);
     }
 
+    private static void ifHeGoesAtOnce() {
+        LastWordHill x = withOne("climbs 20;tires 0;");
+        Edge.sentence(16, "EARLIEST of a PERSON: the MINUTES from now until he is at the top, if he goes at once");
+        Check.due("nobody told him to go", x.earliest(0), 5);
+        Check.due("he does not go by that", x.of(0, 5), 0);
+        Check.lines(x, 1, "on 0 person 0 with 3 at 30;", 1);
+        Check.due("a later line of CLIMBS is not waited for", x.earliest(0), 5);
+        x.minutes(45);
+        Check.due("behind SUNSET", x.earliest(0), 5);
+        x.set(4, 0, 79);
+        Check.due("from 79", x.earliest(0), 1);
+        x.set(4, 0, 78);
+        Check.due("from 78", x.earliest(0), 2);
+    }
+
     private static int withWord(LastWordHill x, int word) {
         x.act(2, 0, 0);
         if (word >= 0) {
@@ -266,6 +318,26 @@ public final class EdgesOfThoughtTest {
         }
         for (int what : new int[] {-1, 4, LOW, HIGH}) {
             Check.due("fits(1, " + what + ")", x.fits(1, what), -1);
+        }
+    }
+
+    private static void fitsSet() {
+        LastWordHill x = new LastWordHill();
+        Edge.sentence(17, "FITS of a WORD: which QUESTIONS it answers (a set)");
+        for (int word = 0; word < 20; word++) {
+            Check.due("without SUITS", x.fits(word, 0), 0);
+        }
+        Check.lines(x, 3, "word 7 answers 9 8 7 6 5 4 3 2 1 0;word 8 answers 0;word 9 answers 9;", 3);
+        Check.due("all", x.fits(7, 0), 1023);
+        Check.due("the first", x.fits(8, 0), 1);
+        Check.due("the last", x.fits(9, 0), 512);
+        Check.due("none", x.fits(10, 0), 0);
+        Edge.sentence(17, "of a set v of QUESTIONS: 1 BEST, 2 COVER how many, 3 the set.");
+        int[][] asked = {{0, 0, 0, 0}, {1, 7, 1, 1 << 7}, {512, 7, 1, 1 << 7}, {1023, 7, 1, 1 << 7}};
+        for (int[] row : asked) {
+            for (int what = 1; what <= 3; what++) {
+                Check.due("fits(" + row[0] + ", " + what + ")", x.fits(row[0], what), row[what]);
+            }
         }
     }
 
@@ -337,6 +409,20 @@ public final class EdgesOfThoughtTest {
         Check.due("none could", x.could(0), 0);
         Check.due("the latest is no more than the first", x.answer(-1, false), 0);
         Check.due("all could again", x.could(0), ALL_WORDS);
+    }
+
+    private static void upToTenTold() {
+        LastWordHill x = new LastWordHill();
+        Check.lines(x, 3, "word 4 answers 0 1 2 3 4 5 6 7 8 9;word 5 answers 0 1 2 3 4 5 6 7 8;", 2);
+        Edge.sentence(18, "TOLD, up to 10 told: a QUESTION was answered rightly or not.");
+        for (int question = 0; question < 9; question++) {
+            Check.due("answer(" + question + ", true)", x.answer(question, true), question + 1);
+        }
+        Check.due("by nine of them", x.could(0), 1 << 4 | 1 << 5);
+        Check.due("answer(9, true)", x.answer(9, true), 10);
+        Check.due("the tenth counts, too", x.could(0), 1 << 4);
+        Check.due("answer(9, false)", x.answer(9, false), -1);
+        Check.due("the eleventh does not", x.could(0), 1 << 4);
     }
 
     private static void could() {
