@@ -506,6 +506,10 @@ public final class EdgesOfPeopleTest {
         Check.due("in MINUTE 59 at SUNSET", x.of(0, 10), 0);
         x.minutes(1);
         Check.due("in the morning", x.of(0, 10), 59);
+        x.set(5, 0, 10);
+        x.minutes(11);
+        Check.lines(x, 0, "says 5+left;", 1);
+        Check.due("behind it not below 0", x.of(0, 10), 5);
     }
 
     private static void others() {

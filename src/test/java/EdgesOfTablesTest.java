@@ -101,6 +101,12 @@ public final class EdgesOfTablesTest {
         x.watch(-1, 0);
         x.watch(0, 58);
         Check.due("59 is in none", x.guard(0, -1), -1);
+        x.watch(-1, 0);
+        for (int i = 0; i < 9; i++) {
+            x.watch(i, i == 8 ? 58 : i);
+        }
+        Check.due("59 is in none of nine", x.guard(0, -1), -1);
+        Check.due("59 is in none of nine", x.guard(0, 9), -1);
     }
 
     private static void step() {
@@ -123,7 +129,12 @@ public final class EdgesOfTablesTest {
         Check.due("down(9, 0, 19)", x.down(9, 0, 19), 1);
         Check.due("step(NONE, ..)", x.step(-1, 99, LOW), 0);
         Check.due("none is then", x.down(0, 9, -1), -1);
-        Check.due("one again", x.step(0, 0, 9), 1);
+        Check.due("none is then", x.down(0, 9, 0), -1);
+        Check.due("one again", x.step(0, 5, 8), 1);
+        Check.due("by the one alone", x.down(0, 8, 5), 1);
+        Check.due("by the one alone", x.down(0, 8, -1), 1);
+        Check.due("the second is none again", x.down(9, 0, 19), -1);
+        Check.due("the second is none again", x.down(9, 0, -1), -1);
     }
 
     private static void upToSixteenSteps() {
@@ -240,6 +251,7 @@ public final class EdgesOfTablesTest {
         Edge.sentence(25, "STEPS from a WORD to a WORD: the fewest; how many WORDS can be reached");
         Check.due("back", x.over(2, 0), 2);
         Check.due("from 0", x.over(0, -1), 3);
+        Check.due("from 1, WORD 0 too", x.over(1, -1), 3);
         Check.due("from 3", x.over(3, -1), 1);
         Edge.sentence(25, "OVER: STEPS (alike: 0); how many can be reached from a "
             + "(b NONE; itself not; empty ones go over into none).");
@@ -343,6 +355,9 @@ public final class EdgesOfTablesTest {
         LastWordHill x = new LastWordHill();
         for (int[] s : speakers) {
             x.speaker(s[0], s[1]);
+        }
+        for (int i = 0; i < order.length; i++) {
+            Check.due("council(" + (10 + i) + ") ahead of council(0)", x.council(10 + i), order[i]);
         }
         Check.due("council(0)", x.council(0), howMany);
         for (int i = 0; i < order.length; i++) {

@@ -19,6 +19,8 @@ public final class EdgesOfTextsTest {
         fault();
         lawGrammar();
         conditionGrammar();
+        comparisons();
+        closeness();
         sumGrammar();
         climbsBounds();
         sunsBounds();
@@ -204,6 +206,50 @@ public final class EdgesOfTextsTest {
         }
     }
 
+    private static void so(LastWordHill x, String condition, boolean want) {
+        Check.lines(x, 0, "says 1 when " + condition + ";says 0;", 2);
+        Check.due(condition, x.of(0, 10), want ? 1 : 0);
+    }
+
+    private static void comparisons() {
+        LastWordHill x = withOne();
+        Edge.sentence(10, "C = E (< | = | >) E | not C");
+        int[][] pairs = {{6, 7}, {7, 7}, {8, 7}, {0, 9999}, {9999, 0}, {0, 0}};
+        for (int[] p : pairs) {
+            so(x, p[0] + "<" + p[1], p[0] < p[1]);
+            so(x, p[0] + "=" + p[1], p[0] == p[1]);
+            so(x, p[0] + ">" + p[1], p[0] > p[1]);
+            so(x, "not " + p[0] + "<" + p[1], p[0] >= p[1]);
+            so(x, "not not " + p[0] + "=" + p[1], p[0] == p[1]);
+            so(x, "not(" + p[0] + ">" + p[1] + ")", p[0] <= p[1]);
+        }
+        so(x, "0-1<0", true);
+        so(x, "0-1>0", false);
+    }
+
+    /** All of a, b, c so or not: "not" binds closer than "and", that closer than "or", brackets closest. */
+    private static void closeness() {
+        LastWordHill x = withOne();
+        Edge.sentence(10, "B = A {or A}. A = C {and C}.");
+        for (int bits = 0; bits < 8; bits++) {
+            boolean a = (bits & 1) != 0;
+            boolean b = (bits & 2) != 0;
+            boolean c = (bits & 4) != 0;
+            String p = a ? "1=1" : "1=2";
+            String q = b ? "1=1" : "1=2";
+            String r = c ? "1=1" : "1=2";
+            so(x, p + " or " + q, a || b);
+            so(x, p + " and " + q, a && b);
+            so(x, p + " or " + q + " and " + r, a || b && c);
+            so(x, p + " and " + q + " or " + r, a && b || c);
+            so(x, "(" + p + " or " + q + ")and " + r, (a || b) && c);
+            so(x, p + " and(" + q + " or " + r + ")", a && (b || c));
+            so(x, "not " + p + " and " + q + " or " + r, !a && b || c);
+            so(x, "not " + p + " or not " + q + " and not " + r, !a || !b && !c);
+            so(x, "not(" + p + " or " + q + ")and not not " + r, !(a || b) && c);
+        }
+    }
+
     private static void sumGrammar() {
         LastWordHill x = withOne();
         Edge.sentence(10, "E = T {(+ | -) T}. T = U {* U | / NUMBER}. "
@@ -359,26 +405,21 @@ public final class EdgesOfTextsTest {
         }
     }
 
-    private static void holds(LastWordHill x, String condition) {
-        Check.lines(x, 0, "says 1 when " + condition + ";says 0;", 2);
-        Check.due(condition, x.of(0, 10), 1);
-    }
-
     private static void ints() {
         LastWordHill x = withOne();
         Edge.sentence(10, "Ints, which wrap; / goes towards 0.");
         // 9999 * 9999 * 21 is 2099580021, 9999 * 9999 more of it is beyond 2147483647
-        holds(x, "9999*9999*21>0");
-        holds(x, "9999*9999*22<0");
-        holds(x, "9999*9999*21+9999*9999<0");
-        holds(x, "0-9999*9999*21-9999*9999>0");
-        holds(x, "9999*9999*22=9999*9999*21+9999*9999");
-        holds(x, "7/2=3");
-        holds(x, "0-7/2=0-3");
+        so(x, "9999*9999*21>0", true);
+        so(x, "9999*9999*22<0", true);
+        so(x, "9999*9999*21+9999*9999<0", true);
+        so(x, "0-9999*9999*21-9999*9999>0", true);
+        so(x, "9999*9999*22=9999*9999*21+9999*9999", true);
+        so(x, "7/2=3", true);
+        so(x, "0-7/2=0-3", true);
         // 9999 * 9999 * 22 wraps to -2095407274: its thousandth goes up to -2095407
-        holds(x, "9999*9999*22/1000=0-2095*1000-407");
-        holds(x, "7*3/2*2=20");
-        holds(x, "9/9999=0");
+        so(x, "9999*9999*22/1000=0-2095*1000-407", true);
+        so(x, "7*3/2*2=20", true);
+        so(x, "9/9999=0", true);
     }
 
     private static void firstFault() {
@@ -412,6 +453,10 @@ public final class EdgesOfTextsTest {
         Check.fault(x, 0, longest, 1, 400);
         Check.lines(x, 0, longest.substring(0, 398) + " ;", 1);
         Check.due("says", x.of(0, 10), 197);
+        for (int k = 0; k < 4; k++) {
+            Check.fault(x, k, ";".repeat(400), 1, 0);
+        }
+        Check.fault(x, 1, "on" + "+".repeat(398), 1, 2);
     }
 
     private static void numberFaults() {
@@ -448,5 +493,9 @@ public final class EdgesOfTextsTest {
         Check.lines(x, 0, "says 1 when " + "(1=1)and not 1=1 or ".repeat(12) + "1=1;", 1);
         Check.lines(x, 0, "says 1 when " + "(".repeat(8) + "1=1" + ")".repeat(8) + ";tires 1 when " + "(".repeat(8) + "1=1"
             + ")".repeat(8) + ";", 2);
+        for (int last = 1; last <= 2; last++) {
+            so(x, "1=2 or 1=1 and(".repeat(8) + "1=2 or 1=1 and " + last + "=1" + ")".repeat(8), last == 1);
+            so(x, "1=1 and not(".repeat(4) + "1=2 or 1=1 and " + last + "=1" + ")".repeat(4), last == 1);
+        }
     }
 }

@@ -353,6 +353,10 @@ public final class EdgesOfThoughtTest {
         Check.due("of 9 the least of two", x.fits(512, 1), 5);
         Check.due("of 0 and 2", x.fits(5, 1), 19);
         Check.due("of 3", x.fits(8, 1), 6);
+        for (int word = 0; word < 20; word++) {
+            Check.lines(x, 3, "word " + word + " answers 4;", 1);
+            Check.due("WORD " + word + " alone", x.fits(16, 1), word);
+        }
     }
 
     private static void cover(LastWordHill x, int questions, int howMany, int words) {
@@ -384,6 +388,18 @@ public final class EdgesOfThoughtTest {
         Check.lines(x, 3, each.toString(), 10);
         cover(x, 1023, 10, 1023 << 10);
         cover(x, 1, 1, 1 << 19);
+        for (int word = 0; word < 20; word++) {
+            Check.lines(x, 3, "word " + word + " answers 4;", 1);
+            cover(x, 16, 1, 1 << word);
+        }
+        Check.lines(x, 3, "word 0 answers 0;word 1 answers 1;word 2 answers 2;word 19 answers 0 1 2;", 4);
+        cover(x, 7, 1, 1 << 19);
+        Check.lines(x, 3, "word 19 answers 0 1;word 18 answers 2;word 0 answers 0;word 1 answers 1;word 2 answers 2;", 5);
+        cover(x, 7, 2, 1 << 2 | 1 << 19);
+        Check.lines(x, 3, "word 19 answers 0 1;word 3 answers 0;word 2 answers 1;word 18 answers 1 0;", 4);
+        cover(x, 3, 1, 1 << 18);
+        Check.lines(x, 3, "word 0 answers 0;word 19 answers 1 2;word 5 answers 0 1;word 6 answers 2;", 4);
+        cover(x, 7, 2, 1 << 5 | 1 << 6);
     }
 
     private static void answer() {
