@@ -107,6 +107,11 @@ public final class EdgesOfTablesTest {
         }
         Check.due("59 is in none of nine", x.guard(0, -1), -1);
         Check.due("59 is in none of nine", x.guard(0, 9), -1);
+        x.watch(-1, 0);
+        x.watch(1, 59);
+        Check.due("0 is in none", x.guard(0, -1), -1);
+        Check.due("0 is in none", x.guard(0, 0), -1);
+        Check.due("from 1", x.guard(1, -1), 1);
     }
 
     private static void step() {
